@@ -117,6 +117,11 @@ public final class PromisesTest {
         SemiPartEdf one = new SemiPartEdf(1);
         one.admit(3, 5, 5);
         Due.is("2: no split on one core", one.admit(3, 5, 5), NO_CORE);
+        SemiPartEdf least = new SemiPartEdf(2);
+        least.admit(4, 5, 5);
+        least.admit(4, 5, 5);
+        Due.is("2: x may be 1", least.admit(2, 5, 5), 2);
+        Due.is("2: x is 1", least.firstCost(2), 1);
         // Every other slot is free, so no first part could be done as soon as it is due.
         SemiPartEdf early = new SemiPartEdf(2);
         early.admit(1, 1, 2);
@@ -224,6 +229,10 @@ public final class PromisesTest {
         Due.is("3: no response on core 0", x.response(0, 2), NO_TASK);
         Due.is("3: no response on core 1", x.response(1, 2), NO_TASK);
         Due.is("3: gone already", x.remove(2), NO_TASK);
+        Due.is("3: its id is free", x.admit(1, 5, 5), 2);
+        Due.is("3: no second part came back", x.load(1), 36);
+        Due.is("3: nor runs", x.running(1, 0), 1);
+        Due.is("3: two left again", x.remove(2), 2);
         Due.is("3: one left", x.remove(0), 1);
         Due.is("3: none left", x.remove(1), 0);
         Due.is("3: nobody there", x.remove(0), NO_TASK);
@@ -370,6 +379,7 @@ public final class PromisesTest {
         Due.is("10: all twelve stay", x.remove(0), 11);
         Due.is("10: id 12 was not left behind", x.response(0, 12), NO_TASK);
         Due.is("10: load is the tasks' own", x.load(0), 11);
+        Due.is("10: the core idles behind them", x.running(0, 12), NO_TASK);
     }
 
     private static void orderOfTests() {
