@@ -289,8 +289,10 @@ public final class ModelTest {
             case 1 -> Due.is(where + "secondCore(" + id + ")", x.secondCore(id), model.secondCore(id));
             case 2 -> Due.is(where + "firstCost(" + id + ")", x.firstCost(id), model.firstCost(id));
             case 3 -> Due.is(where + "load(" + core + ")", x.load(core), model.load(core));
-            case 4 -> Due.is(where + "running(" + core + ", " + slot + ")", x.running(core, slot), model.running(core, slot));
-            case 5 -> Due.is(where + "response(" + core + ", " + id + ")", x.response(core, id), model.response(core, id));
+            case 4 -> Due.is(where + "running(" + core + ", " + slot + ")",
+                x.running(core, slot), model.running(core, slot));
+            case 5 -> Due.is(where + "response(" + core + ", " + id + ")",
+                x.response(core, id), model.response(core, id));
             default -> Due.is(where + "spare(" + core + ", " + p + ")", x.spare(core, p), model.spare(core, p));
         }
     }
