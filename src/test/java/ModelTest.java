@@ -1,4 +1,5 @@
 import java.util.ArrayList;
+import java.util.Arrays;
 import java.util.List;
 import java.util.TreeMap;
 
@@ -9,7 +10,9 @@ public final class ModelTest {
     private static final int[] PERIODS = {2, 3, 4, 5, 6, 10, 12, 15, 20, 30, 60};
 
     private static long state = 20261115L;
-    private static int splits = 0;
+    // By first core * 3 + second core.
+    private static final int[] SPLITS = new int[9];
+    private static int splitsBelowCMinus1 = 0;
     private static int refusals = 0;
     private static int fulls = 0;
 
@@ -241,8 +244,14 @@ public final class ModelTest {
         for (int run = 0; run < RUNS; run++) {
             oneRun(run);
         }
-        System.out.println(splits + " splits, " + refusals + " without a core, " + fulls + " full");
-        Due.holds("the runs reach splits, refusals and twelve tasks", splits > 100 && refusals > 100 && fulls > 10);
+        System.out.println("splits " + Arrays.toString(SPLITS) + ", below c - 1 " + splitsBelowCMinus1
+            + ", without a core " + refusals + ", full " + fulls);
+        for (int pair = 0; pair < 9; pair++) {
+            boolean other = pair / 3 != pair % 3;
+            Due.holds("the runs split over cores " + pair / 3 + " and " + pair % 3, !other || SPLITS[pair] >= 20);
+        }
+        Due.holds("the runs reach smaller first parts, refusals and twelve tasks",
+            splitsBelowCMinus1 >= 100 && refusals >= 100 && fulls >= 100);
         Due.end();
     }
 
@@ -250,40 +259,49 @@ public final class ModelTest {
         int cores = from(-1, 5);
         SemiPartEdf x = new SemiPartEdf(cores);
         Model model = new Model(cores);
-        // Small tasks in some runs, so that twelve of them fit; greater ones in others, so that some are split.
+        // Small tasks in some runs, so that twelve of them fit; greater ones in others, of few periods and with
+        // late deadlines, so that many are split.
         int size = from(1, 4);
+        boolean few = from(0, 1) == 0;
         for (int call = 0; call < CALLS; call++) {
             String where = "run " + run + " of " + cores + " cores, call " + call + ": ";
-            if (from(0, 2) == 0) {
-                change(where, x, model, size);
-            } else {
+            int kind = from(0, 14);
+            if (kind < 2) {
+                int id = from(0, 9) == 0 ? anyNumber() : from(-1, 13);
+                Due.is(where + "remove(" + id + ")", x.remove(id), model.remove(id));
+            } else if (kind > 5) {
                 ask(where, x, model);
+            } else if (from(0, 19) == 0) {
+                admit(where, x, model, anyNumber(), anyNumber(), anyNumber());
+            } else if (few) {
+                int p = PERIODS[from(5, 6) + from(0, 1) * 4];
+                int c = from(p / 4, p * 3 / 4);
+                admit(where, x, model, c, from(Math.max(c, p - 4), p), p);
+            } else {
+                int p = PERIODS[from(0, PERIODS.length - 1)];
+                int c = from(1, Math.max(1, p * size / 5));
+                admit(where, x, model, c, from(0, 2) == 0 ? from(c, p) : p, p);
             }
         }
     }
 
-    private static void change(String where, SemiPartEdf x, Model model, int size) {
-        if (from(0, 4) == 0) {
-            int id = from(-1, 13);
-            Due.is(where + "remove(" + id + ")", x.remove(id), model.remove(id));
-            return;
-        }
-        boolean wrong = from(0, 19) == 0;
-        int p = wrong ? from(-1, 62) : PERIODS[from(0, PERIODS.length - 1)];
-        int c = wrong ? from(-1, 62) : from(1, Math.max(1, p * size / 5));
-        int d = wrong ? from(-1, 62) : from(0, 2) == 0 ? from(c, p) : p;
+    private static void admit(String where, SemiPartEdf x, Model model, int c, int d, int p) {
         int want = model.admit(c, d, p);
         Due.is(where + "admit(" + c + ", " + d + ", " + p + ")", x.admit(c, d, p), want);
-        splits += want >= 0 && model.secondCore(want) >= 0 ? 1 : 0;
         refusals += want == -4 ? 1 : 0;
         fulls += want == -3 ? 1 : 0;
+        if (want >= 0 && model.secondCore(want) >= 0) {
+            SPLITS[model.core(want) * 3 + model.secondCore(want)]++;
+            splitsBelowCMinus1 += model.firstCost(want) < c - 1 ? 1 : 0;
+        }
     }
 
     private static void ask(String where, SemiPartEdf x, Model model) {
-        int id = from(-1, 13);
-        int core = from(-1, 3);
-        int slot = from(-1, 60);
-        int p = from(0, 9) == 0 ? from(-1, 62) : PERIODS[from(0, PERIODS.length - 1)];
+        boolean odd = from(0, 9) == 0;
+        int id = odd ? anyNumber() : from(-1, 13);
+        int core = from(0, 19) == 0 ? anyNumber() : from(-1, 3);
+        int slot = odd ? anyNumber() : from(-1, 60);
+        int p = odd ? anyNumber() : PERIODS[from(0, PERIODS.length - 1)];
         switch (from(0, 6)) {
             case 0 -> Due.is(where + "core(" + id + ")", x.core(id), model.core(id));
             case 1 -> Due.is(where + "secondCore(" + id + ")", x.secondCore(id), model.secondCore(id));
@@ -295,6 +313,12 @@ public final class ModelTest {
                 x.response(core, id), model.response(core, id));
             default -> Due.is(where + "spare(" + core + ", " + p + ")", x.spare(core, p), model.spare(core, p));
         }
+    }
+
+    // Around what the document allows, or one of the ends of int.
+    private static int anyNumber() {
+        int pick = from(-3, 65);
+        return pick == 64 ? Integer.MIN_VALUE : pick == 65 ? Integer.MAX_VALUE : pick;
     }
 
     // A fixed sequence, the same in every run of the test.

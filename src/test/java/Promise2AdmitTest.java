@@ -14,6 +14,7 @@ public final class Promise2AdmitTest {
         aSplitTaskIsOneOfTwelve();
         theTestsComeInTheirOrder();
         theTaskGetsTheSmallestFreeId();
+        anIdIsTakenOnWhateverCore();
         aRefusedCallTakesNoId();
         aRefusedCallChangesNothing();
         noCoreChangesNothing();
@@ -131,26 +132,36 @@ public final class Promise2AdmitTest {
         Due.is("cost before no core", busy.admit(61, 61, 60), SemiPartEdf.BAD_COST);
     }
 
+    // Every set of ids that can be free beside the others: the ids come again from the smallest on.
     private static void theTaskGetsTheSmallestFreeId() {
         Due.sentence(PLACE, "The task gets the smallest id from 0 that no task has; the call answers the id.");
-        for (int gone = 0; gone < 12; gone++) {
-            SemiPartEdf x = Made.twelve(3);
-            Due.is("one goes", x.remove(gone), 11);
-            Due.is("its id comes again", x.admit(1, 60, 60), gone);
+        for (int free = 0; free < 1 << 12; free++) {
+            SemiPartEdf x = Made.twelve(1);
+            for (int id = 0; id < 12; id++) {
+                if ((free >> id & 1) == 1) {
+                    x.remove(id);
+                }
+            }
+            for (int id = 0; id < 12; id++) {
+                if ((free >> id & 1) == 1) {
+                    Due.is("the smallest free id", x.admit(2, 60, 60), id);
+                    Due.is("the task has the id", x.firstCost(id), 2);
+                }
+            }
+            Due.is("no id is free", x.admit(2, 60, 60), SemiPartEdf.FULL);
         }
-        SemiPartEdf x = Made.twelve(1);
-        for (int id : new int[] {9, 2, 11, 0}) {
-            x.remove(id);
-        }
-        for (int id : new int[] {0, 2, 9, 11}) {
-            Due.is("free ids from the smallest on", x.admit(2, 60, 60), id);
-            Due.is("the task has the id", x.firstCost(id), 2);
-        }
-        // On another core an id is no less taken.
-        SemiPartEdf two = Made.with(2, 60, 60, 60, 30, 60, 60, 1, 60, 60);
-        two.remove(1);
-        Due.is("the id between", two.admit(1, 60, 60), 1);
-        Due.is("the id behind", two.admit(1, 60, 60), 3);
+    }
+
+    private static void anIdIsTakenOnWhateverCore() {
+        Due.sentence(PLACE, "The task gets the smallest id from 0 that no task has; the call answers the id.");
+        SemiPartEdf x = Made.with(2, 60, 60, 60, 30, 60, 60, 1, 60, 60);
+        x.remove(1);
+        Due.is("the id between", x.admit(1, 60, 60), 1);
+        Due.is("the id behind", x.admit(1, 60, 60), 3);
+        SemiPartEdf split = Made.split();
+        Due.is("the id behind a split task", split.admit(1, 5, 5), 3);
+        split.remove(2);
+        Due.is("the id of a split task", split.admit(3, 5, 60), 2);
     }
 
     private static void aRefusedCallTakesNoId() {

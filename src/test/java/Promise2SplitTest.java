@@ -18,6 +18,7 @@ public final class Promise2SplitTest {
         theSmallestFirstCoreAndThenTheSmallestSecond();
         aFirstCoreWithoutASecondIsPassedOver();
         theGreatestXComesBeforeTheSmallestCore();
+        aTaskWithoutSlackIsSplitToo();
         theSecondPartIsReleasedInSlot0();
         manyTasksMayBeSplit();
         Due.end();
@@ -85,6 +86,7 @@ public final class Promise2SplitTest {
         // Every other slot is free, but slot 0 is not.
         SemiPartEdf x = Made.with(2, 1, 1, 2, 1, 1, 2);
         Due.is("no first part starts in slot 0", x.admit(3, 4, 4), SemiPartEdf.NO_CORE);
+        Due.is("nor one of a single slot", x.admit(2, 3, 4), SemiPartEdf.NO_CORE);
         // Its deadline is the earliest there can be, so it runs ahead of task 0.
         SemiPartEdf y = Made.with(2, 6, 10, 10, 7, 10, 10, 7, 10, 10);
         Made.runs("the first part runs at once", y, 0, 2, 2, 2, 2, 0, 0, 0, 0, 0, 0);
@@ -171,6 +173,19 @@ public final class Promise2SplitTest {
         SemiPartEdf even = Made.with(3, 6, 10, 10, 6, 10, 10, 6, 10, 10, 5, 10, 10, 5, 10, 10);
         split("the smallest cores", even, 3, 0, 1, 4);
         split("the greatest x that is left", even, 4, 2, 1, 4);
+    }
+
+    // With c = d both parts have to run at once.
+    private static void aTaskWithoutSlackIsSplitToo() {
+        Due.sentence(PLACE, "Only values with c - x <= d - x, which always holds.");
+        SemiPartEdf x = Made.with(2, 6, 10, 10, 7, 10, 10, 5, 5, 10);
+        split("c = d", x, 2, 0, 1, 4);
+        Due.is("response of the first part", x.response(0, 2), 4);
+        Due.is("response of the second part", x.response(1, 2), 1);
+        SemiPartEdf late = Made.with(2, 6, 10, 10, 7, 10, 10, 7, 7, 10);
+        split("c = d, all slots", late, 2, 0, 1, 4);
+        Due.is("second part of all slots", late.response(1, 2), 3);
+        Due.is("slot 0 is taken", Made.with(2, 6, 10, 10, 6, 6, 10).admit(5, 5, 10), SemiPartEdf.NO_CORE);
     }
 
     private static void theSecondPartIsReleasedInSlot0() {

@@ -7,6 +7,7 @@ public final class Promise3RemoveTest {
         aWholeTaskGoes();
         aSplitTaskGoesWithBothParts();
         nothingOfASplitTaskComesBack();
+        nothingOfAWholeTaskComesBack();
         theOtherTasksStayWhereTheyAre();
         anIdOutOfRangeIsNoTask();
         anIdThatNoTaskHasIsNoTask();
@@ -57,6 +58,27 @@ public final class Promise3RemoveTest {
         Due.is("load(1)", x.load(1), 36);
         Due.is("response(1, 2)", x.response(1, 2), SemiPartEdf.NO_TASK);
         Made.runs("core 1 without it", x, 1, 1, 1, 1, IDLE, IDLE);
+        // The id again, but not on the core of the first part, which another task fills.
+        SemiPartEdf y = Made.split();
+        y.remove(2);
+        y.remove(0);
+        Due.is("all of core 0", y.admit(5, 5, 5), 0);
+        Due.is("the id again, on core 1", y.admit(1, 5, 5), 2);
+        Due.is("load(0)", y.load(0), 60);
+        Due.is("response(0, 2)", y.response(0, 2), SemiPartEdf.NO_TASK);
+        Made.runs("core 0 without it", y, 0, 0);
+    }
+
+    private static void nothingOfAWholeTaskComesBack() {
+        Due.sentence(PLACE, "Takes a task out");
+        SemiPartEdf x = Made.with(2, 10, 60, 60, 50, 60, 60);
+        x.remove(0);
+        Due.is("the id again, too much for core 0", x.admit(11, 60, 60), 0);
+        Due.is("load(0)", x.load(0), 50);
+        Due.is("load(1)", x.load(1), 11);
+        Due.is("response(0, 0)", x.response(0, 0), SemiPartEdf.NO_TASK);
+        Due.is("slot 0 of core 0", x.running(0, 0), 1);
+        Due.is("spare(0, 60)", x.spare(0, 60), 10);
     }
 
     private static void theOtherTasksStayWhereTheyAre() {

@@ -27,6 +27,7 @@ public final class TermsTest {
         allPartsRepeatAfter60Slots();
         noCoreMissesWithAdmittedTasks();
         theAskingCallsChangeNothing();
+        theAskingCallsLeaveLaterAnswersAsTheyAre();
         Due.end();
     }
 
@@ -328,5 +329,40 @@ public final class TermsTest {
             }
         }
         return Made.picture(x);
+    }
+
+    // Two objects get the same tasks, and only one of them is asked in between.
+    private static void theAskingCallsLeaveLaterAnswersAsTheyAre() {
+        Due.sentence(PLACE, "The calls below change nothing.");
+        for (int run = 0; run < 90; run++) {
+            SemiPartEdf asked = new SemiPartEdf(1 + run % 3);
+            SemiPartEdf quiet = new SemiPartEdf(1 + run % 3);
+            for (int change = 0; change < 60; change++) {
+                askAll(asked);
+                String what = "run " + run + ", change " + change + ": ";
+                int id = from(0, 11);
+                if (from(0, 2) == 0) {
+                    Due.is(what + "remove(" + id + ")", asked.remove(id), quiet.remove(id));
+                    continue;
+                }
+                int p = Made.PERIODS[from(1, 10)];
+                int c = from(1, p / 2);
+                int d = from(c, p);
+                String call = what + "admit(" + c + ", " + d + ", " + p + ")";
+                Due.is(call, asked.admit(c, d, p), quiet.admit(c, d, p));
+            }
+        }
+    }
+
+    private static void askAll(SemiPartEdf x) {
+        int id = from(0, 11);
+        int core = from(0, 2);
+        x.core(id);
+        x.secondCore(id);
+        x.firstCost(id);
+        x.load(core);
+        x.running(core, from(0, 59));
+        x.response(core, id);
+        x.spare(core, Made.PERIODS[from(0, 10)]);
     }
 }
