@@ -1,3 +1,5 @@
+import java.util.function.ToIntBiFunction;
+
 /** The objects and the inputs that several tests start from. */
 final class Made {
     static final int LEAST = Integer.MIN_VALUE;
@@ -44,6 +46,25 @@ final class Made {
             }
         }
         return false;
+    }
+
+    /** A call that takes an id alone answers NO_TASK for every id that no task has, or has any more. */
+    static void knowsNoTask(String name, ToIntBiFunction<SemiPartEdf, Integer> call) {
+        SemiPartEdf x = split();
+        for (int id : NEVER_IDS) {
+            Due.is(name + "(" + id + ")", call.applyAsInt(x, id), SemiPartEdf.NO_TASK);
+        }
+        for (int id = 3; id < 12; id++) {
+            Due.is(name + "(" + id + ")", call.applyAsInt(x, id), SemiPartEdf.NO_TASK);
+        }
+        for (int id = 0; id < 3; id++) {
+            x.remove(id);
+            Due.is(name + "(" + id + ") behind remove", call.applyAsInt(x, id), SemiPartEdf.NO_TASK);
+        }
+        // Where there are twelve tasks, spare tries its part under the id 12.
+        SemiPartEdf full = twelve(1);
+        full.spare(0, 60);
+        Due.is(name + "(12) behind spare", call.applyAsInt(full, 12), SemiPartEdf.NO_TASK);
     }
 
     /** Each slot of a core against an order that repeats, slot 59 the last. */

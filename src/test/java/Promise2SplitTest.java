@@ -37,7 +37,7 @@ public final class Promise2SplitTest {
             int half = p - p / 2;
             if (p > 3) {
                 SemiPartEdf x = Made.with(2, p / 2, p, p, p - 1, p, p);
-                Due.is("two slots too many of " + p, x.admit(half + 2, p, p), SemiPartEdf.NO_CORE);
+                Due.is("one slot too many of " + p, x.admit(half + 2, p, p), SemiPartEdf.NO_CORE);
                 Due.is("c - 1 slots of " + p, x.admit(half + 1, p, p), 2);
                 split("c - 1 slots of " + p, x, 2, 0, 1, half);
             }
@@ -103,7 +103,7 @@ public final class Promise2SplitTest {
         Due.is("due at 11 - 4", x.admit(5, 11, 12), 3);
         split("due at 11 - 4", x, 3, 0, 1, 4);
         Due.is("response of the second part", x.response(1, 3), 7);
-        // Core 1 keeps four slots of ten from slot 6 on, whole enough for (1, 9, 10) but not for (1, 5, 10).
+        // Core 1 has no slot free before slot 6: it takes (1, 9, 10) and (1, 10, 10), but neither four slots earlier.
         Due.is("due at 9 - 4", Made.with(2, 6, 10, 10, 6, 6, 10).admit(5, 9, 10), SemiPartEdf.NO_CORE);
         Due.is("due at 10 - 4", Made.with(2, 6, 10, 10, 6, 6, 10).admit(5, 10, 10), SemiPartEdf.NO_CORE);
         Due.is("due before the other", Made.with(2, 6, 10, 10, 6, 7, 10).admit(5, 10, 10), 2);

@@ -39,17 +39,6 @@ public final class Promise4CoreTest {
 
     private static void noTask() {
         Due.sentence(PLACE, "; NO_TASK.");
-        SemiPartEdf x = Made.split();
-        for (int id : Made.NEVER_IDS) {
-            Due.is("core(" + id + ")", x.core(id), SemiPartEdf.NO_TASK);
-        }
-        for (int id = 3; id < 12; id++) {
-            Due.is("core(" + id + ")", x.core(id), SemiPartEdf.NO_TASK);
-        }
-        for (int id = 0; id < 3; id++) {
-            x.remove(id);
-            Due.is("core(" + id + ") behind remove", x.core(id), SemiPartEdf.NO_TASK);
-        }
-        Due.is("core(12) of twelve tasks", Made.twelve(1).core(12), SemiPartEdf.NO_TASK);
+        Made.knowsNoTask("core", SemiPartEdf::core);
     }
 }

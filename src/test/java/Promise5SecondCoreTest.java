@@ -38,17 +38,6 @@ public final class Promise5SecondCoreTest {
 
     private static void noTask() {
         Due.sentence(PLACE, "; NO_TASK.");
-        SemiPartEdf x = Made.split();
-        for (int id : Made.NEVER_IDS) {
-            Due.is("secondCore(" + id + ")", x.secondCore(id), SemiPartEdf.NO_TASK);
-        }
-        for (int id = 3; id < 12; id++) {
-            Due.is("secondCore(" + id + ")", x.secondCore(id), SemiPartEdf.NO_TASK);
-        }
-        for (int id = 0; id < 3; id++) {
-            x.remove(id);
-            Due.is("secondCore(" + id + ") behind remove", x.secondCore(id), SemiPartEdf.NO_TASK);
-        }
-        Due.is("secondCore(12) of twelve tasks", Made.twelve(1).secondCore(12), SemiPartEdf.NO_TASK);
+        Made.knowsNoTask("secondCore", SemiPartEdf::secondCore);
     }
 }

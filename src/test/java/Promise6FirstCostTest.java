@@ -40,19 +40,6 @@ public final class Promise6FirstCostTest {
 
     private static void noTask() {
         Due.sentence(PLACE, "; NO_TASK.");
-        SemiPartEdf x = Made.split();
-        for (int id : Made.NEVER_IDS) {
-            Due.is("firstCost(" + id + ")", x.firstCost(id), SemiPartEdf.NO_TASK);
-        }
-        for (int id = 3; id < 12; id++) {
-            Due.is("firstCost(" + id + ")", x.firstCost(id), SemiPartEdf.NO_TASK);
-        }
-        for (int id = 0; id < 3; id++) {
-            x.remove(id);
-            Due.is("firstCost(" + id + ") behind remove", x.firstCost(id), SemiPartEdf.NO_TASK);
-        }
-        SemiPartEdf full = Made.twelve(1);
-        full.spare(0, 60);
-        Due.is("firstCost(12) of twelve tasks", full.firstCost(12), SemiPartEdf.NO_TASK);
+        Made.knowsNoTask("firstCost", SemiPartEdf::firstCost);
     }
 }

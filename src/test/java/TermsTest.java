@@ -4,6 +4,7 @@ public final class TermsTest {
     private static final int IDLE = SemiPartEdf.NO_TASK;
 
     private static long state = 20261116L;
+    private static int splitsInTime = 0;
 
     public static void main(String[] args) {
         aPartReleasesAJobInSlots0AndPAnd2P();
@@ -275,6 +276,7 @@ public final class TermsTest {
                 Due.holds("load of a core is at most 60", x.load(core) >= 0 && x.load(core) <= 60);
             }
         }
+        Due.holds("some of the tasks are split: " + splitsInTime, splitsInTime >= 10);
     }
 
     private static void inTime(SemiPartEdf x, int id, int deadline) {
@@ -290,6 +292,7 @@ public final class TermsTest {
             return;
         }
         int rest = x.response(second, id);
+        splitsInTime++;
         Due.is("first part in time", longest, first);
         Due.holds("second part in time: " + rest + " of " + (deadline - first), rest >= 1 && rest <= deadline - first);
     }
